@@ -870,11 +870,8 @@ public final class SummerHouses {
                     if (depth >= MOST_STACK) {
                         return 0;
                     }
-                    if (step < DAY) {
-                        stack[depth] = state.get(house, step);
-                    } else {
-                        stack[depth] = step == NUMBER ? operands[i] : step == DAY ? state.day : house;
-                    }
+                    int ofAll = step == DAY ? state.day : step == WHICH ? house : operands[i];
+                    stack[depth] = step < DAY ? state.get(house, step) : ofAll;
                     depth++;
                 } else if (step == ANSWER) {
                     return depth > 0 ? stack[depth - 1] : 0;
@@ -1289,9 +1286,8 @@ public final class SummerHouses {
             if (!take(Tokens.HOUSE)) {
                 return false;
             }
-            long name = tokens.values[at];
-            boolean twice = draft.isNamed(name);
-            if (tokens.kinds[at] == Tokens.NAME && twice) {
+            draft.names[house] = tokens.values[at];
+            if (tokens.kinds[at] == Tokens.NAME && draft.isNamed(tokens.values[at])) {
                 note(TWICE);
             }
             if (!take(Tokens.NAME)) {
@@ -1303,7 +1299,6 @@ public final class SummerHouses {
                     return false;
                 }
             }
-            draft.names[house] = name;
             draft.houses++;
             return take(';');
         }
@@ -1346,8 +1341,8 @@ public final class SummerHouses {
             }
             Laws laws = draft.laws;
             laws.begin(law);
-            for (int ifs = 0; tokens.kinds[at] == Tokens.IF; ifs++) {
-                if (ifs >= MOST_IFS) {
+            for (int ifs = 0; ifs <= MOST_IFS && tokens.kinds[at] == Tokens.IF; ifs++) {
+                if (ifs == MOST_IFS) {
                     return refuse(ROOM);
                 }
                 if (!take(Tokens.IF) || !sum(0) || !take('<') || !sum(0) || !take(Tokens.THEN)) {
