@@ -12,6 +12,7 @@ public final class FaultsTest {
         room();
         twiceAndWrong();
         whichComesFirst();
+        whatWentBackIsGone();
         faultsChangeNothing();
         Check.end("FaultsTest");
     }
@@ -159,6 +160,23 @@ public final class FaultsTest {
         bad(houses(7) + "x", ROOM, houses(6).length());
         bad(houses(3) + "x" + houses(7), SYNTAX, houses(3).length());
         bad("house a 1 2 3 4 5;house a 1 2 3 4", SYNTAX, 33);
+    }
+
+    /** Bytes that went back are no part of the text, though they would go on with its last TOKEN. */
+    private static void whatWentBackIsGone() {
+        cutOff("house", "hous", SYNTAX, 0);
+        cutOff("coals 12345", "coals 1234", SYNTAX, 10);
+        cutOff("coals 5;x", "coals 5;", 0, -1);
+        cutOff("coals 5; x", "coals 5; ", 0, -1);
+        cutOff("coals 5;", "coals 5", SYNTAX, 7);
+    }
+
+    private static void cutOff(String text, String left, int fault, int place) {
+        SummerHouses x = new SummerHouses();
+        Check.feed(x, text);
+        x.back(text.length() - left.length());
+        Check.due("read of " + left, x.read(), fault);
+        Check.due("place of " + left, x.place(), place);
     }
 
     private static void faultsChangeNothing() {
