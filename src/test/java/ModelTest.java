@@ -307,10 +307,12 @@ public final class ModelTest {
 
     private void askSomething() throws Exception {
         int n = model.count(0);
-        int few = n > 4 ? 4 : n > 3 ? 8 : n > 2 ? 15 : 30;
+        // The model tries every way of sharing, so with many houses it is asked for fewer coals.
+        int shared = n > 5 ? 10 : n > 4 ? 15 : 30;
+        int few = n > 4 ? 4 : n > 3 ? 8 : 10;
         switch (random.nextInt(28)) {
             case 0: call("loss", aHouse(), about(0, 30)); break;
-            case 1: case 2: call("share", upTo(few), chance(30) ? -1 : aHouse()); break;
+            case 1: case 2: call("share", upTo(shared), chance(30) ? -1 : aHouse()); break;
             case 3: call("enough"); break;
             case 4: if (chance(30)) { call("plan", Math.min(few, upTo(10)), about(0, 2)); } break;
             case 5: call("worst", about(0, 1)); break;
