@@ -17,6 +17,7 @@ public final class AskEdgesTest {
         plan();
         planAlike();
         planEachDay();
+        planAgain();
         worst();
         lasts();
         lastsUpTo30();
@@ -245,6 +246,20 @@ public final class AskEdgesTest {
         Edge.of(17, "HAIL in IN n DAYS and YEAR alone");
         SummerHouses hail = Check.of("house a 9 0 900 0 0; fades = broken * 50; hail 100;");
         Edge.is("no HAIL", hail.plan(0, 0), 900);
+    }
+
+    private static void planAgain() {
+        Edge.of(17, "so that what is KEPT in all behind these, added, is most: how much");
+        SummerHouses x = fading("if burnt < 1 then 10 else 0");
+        int[] much = {870, 880, 890, 900, 900, 900, 900, 900, 900, 900, 900};
+        int[] today = {0, 0, 0, 1, 1, 1, 1, 1, 1, 1, 1};
+        for (int n = 10; n >= 0; n--) {
+            Edge.is("plan(" + n + ", 0), asked once more", x.plan(n, 0), much[n]);
+            Edge.is("plan(" + n + ", 1), asked once more", x.plan(n, 1), today[n]);
+        }
+        x.days(60);
+        Edge.is("plan(3, 0), sixty days behind", x.plan(3, 0), 300);
+        Edge.is("plan(0, 0), sixty days behind", x.plan(0, 0), 270);
     }
 
     // ---- promise 18
@@ -683,6 +698,9 @@ public final class AskEdgesTest {
         for (int[] one : vAndHow) {
             Edge.same(made, "summers(" + one[0] + ")", x -> x.summers(one[0]), one[1]);
         }
+        Edge.is("summers(9): the first alone", Check.of(Edge.keeping(9, 8)).summers(9), 1);
+        Edge.is("summers(9): the last of six alone", Check.of(Edge.keeping(8, 8, 8, 8, 8, 9)).summers(9), 1);
+        Edge.is("summers(9): all six", Check.of(Edge.keeping(9, 9, 9, 9, 9, 9)).summers(9), 6);
         for (int v : new int[] {0, -1, 1000, Edge.MIN, Edge.MAX}) {
             Edge.refused(made, "summers(" + v + ")", x -> x.summers(v));
             Edge.refused(Edge::empty, "summers(" + v + ") of none", x -> x.summers(v));

@@ -155,6 +155,52 @@ final class Edge {
         }
     }
 
+    /** What is asked of an object, each question once or a few times; some 250 calls with six houses. */
+    static List<Integer> answers(SummerHouses x) {
+        List<Integer> all = new ArrayList<>();
+        int houses = x.count(0);
+        for (int h = NONE; h <= houses; h++) {
+            askOfHouse(x, h, all);
+            for (int other = 0; other < houses; other++) {
+                all.add(x.far(h, other));
+                all.add(x.next(h, other));
+            }
+        }
+        for (int what = 0; what < 3; what++) {
+            all.add(x.plan(6, what));
+            all.add(x.plan(1, what));
+            all.add(x.worst(what));
+            all.add(x.twins(what));
+            all.add(x.draughty(what));
+            all.add(x.whose(0, what));
+        }
+        all.add(x.enough());
+        all.add(x.lasts());
+        all.add(x.pipes());
+        all.add(x.first());
+        all.add(x.summers(1));
+        all.add(x.look(0, 7));
+        all.add(x.count(12));
+        return all;
+    }
+
+    private static void askOfHouse(SummerHouses x, int h, List<Integer> all) {
+        all.add(x.loss(h, 3));
+        all.add(x.share(30, h));
+        all.add(x.share(2, h));
+        all.add(x.gone(h));
+        all.add(x.cold(h));
+        all.add(x.round(h));
+        all.add(x.nearest(h));
+        all.add(x.saves(h));
+        all.add(x.roofs(h));
+        all.add(x.paired(h));
+        all.add(x.then(h, 20, 0));
+        all.add(x.then(h, 20, 1));
+        all.add(x.then(h, 20, 2));
+        all.add(x.year(h, 9, 20));
+    }
+
     // ---- objects and texts
 
     static String house(String name, int panes, int heat, int kept, int x, int y) {

@@ -272,6 +272,14 @@ public final class LawEdgesTest {
         int[][] seedDayLot = {{0, 0, 49}, {1, 0, 33}, {2, 0, 77}, {9998, 0, 21}, {9999, 0, 40}, {0, 1, 52}, {0, 2, 96},
             {0, 59, 48}, {0, 60, 42}, {9999, 1, 95}, {9999, 2, 2}, {9999, 59, 64}, {9999, 60, 47}, {95, 0, 0},
             {230, 0, 0}, {26, 0, 99}, {292, 0, 99}};
+        lots(seedDayLot);
+        Edge.of(12, "then h and h moved 15 bits down (zeros come in), likewise; the rest of h, moved 1 bit down likewise, by n (32 bits that wrap)");
+        // The highest bit of h, ahead of each moving down, is 0 and 0, 0 and 1, 1 and 0, 1 and 1.
+        lots(new int[][] {{5, 0, 23}, {10, 0, 60}, {6, 0, 88}, {9, 0, 78}, {4, 0, 9}, {7, 0, 11}, {8, 0, 82}, {11, 0, 6}});
+    }
+
+    /** Of a lot it is HAIL by one more than it, and by no less. */
+    private static void lots(int[][] seedDayLot) {
         for (int[] one : seedDayLot) {
             String told = "seed " + one[0] + ";hail ";
             Edge.is(told + one[2] + " on day " + one[1], hail(told + one[2] + ";", one[1]), 0);

@@ -36,6 +36,7 @@ public final class TextEdgesTest {
         firstFaults();
         changesNothing();
         inPlaceOfTheOneAhead();
+        nothingIsLeftOfTheOneAhead();
         readEmptiesTheTape();
         latestPlace();
         Edge.end("TextEdgesTest", 1, 5);
@@ -156,6 +157,21 @@ public final class TextEdgesTest {
         x.feed(0x3b202020, 0x20202020, 0x20202020, 0x20202020, 0x20202020);
         Edge.is("read()", x.read(), 0);
         Edge.is("count(2)", x.count(2), 78);
+        wentBack("coalsx", "coals", SYNTAX, 5);
+        wentBack("house", "hous", SYNTAX, 0);
+        wentBack("coals 789", "coals 78", SYNTAX, 8);
+        wentBack("coals 78; ", "coals 78;", 0, NONE);
+        wentBack("coals 78;x", "coals 78;", 0, NONE);
+        wentBack("coals 78 ;", "coals 78 ", SYNTAX, 9);
+    }
+
+    /** What went would go on with the last TOKEN that is left, or with the blanks behind it. */
+    private static void wentBack(String text, String left, int fault, int place) {
+        SummerHouses x = new SummerHouses();
+        Check.feed(x, text);
+        x.back(text.length() - left.length());
+        Edge.is("read() of " + left, x.read(), fault);
+        Edge.is("place() of " + left, x.place(), place);
     }
 
     // ---- promise 4: the limits of a text and of its TOKENS
@@ -167,6 +183,12 @@ public final class TextEdgesTest {
         refused(" ".repeat(1999) + "?", SYNTAX, 1999);
         refused(" ".repeat(1992) + "coals 78", SYNTAX, 2000);
         refused("coals 78" + " ".repeat(1992), SYNTAX, 2000);
+        refused("x".repeat(2000), SYNTAX, 0);
+        refused("7".repeat(2000), SYNTAX, 0);
+        refused("(".repeat(2000), SYNTAX, 0);
+        refused("cools=" + "(".repeat(1994), ROOM, 12);
+        refused("coals" + " ".repeat(1990) + "coals", SYNTAX, 1995);
+        refused("seed" + " ".repeat(1992) + "9999", SYNTAX, 2000);
         SummerHouses x = new SummerHouses();
         Check.read(x, "coals" + " ".repeat(1991) + "123;");
         Edge.is("count(2)", x.count(2), 123);
@@ -387,7 +409,10 @@ public final class TextEdgesTest {
     }
 
     private static int hailDays(String text) {
-        SummerHouses x = Check.of(text);
+        return hailDays(Check.of(text));
+    }
+
+    private static int hailDays(SummerHouses x) {
         int bits = 0;
         for (int d = 0; d < 30; d++) {
             bits |= x.count(12) << d;
@@ -626,6 +651,39 @@ public final class TextEdgesTest {
             }
             Edge.is("whose(1, 0)", x.whose(1, 0), NONE);
             Edge.alike("as on a new object: " + text, x, Check.of(text));
+        }
+    }
+
+    private static String sixOf(int panes, int heat, int kept, int apart) {
+        StringBuilder s = new StringBuilder();
+        for (int h = 0; h < 6; h++) {
+            s.append(Edge.house(String.valueOf((char) ('a' + h)), panes + h, heat + h, kept - 7 * h, apart * h, 99 - apart * h));
+        }
+        return s.toString();
+    }
+
+    /** What was found for more houses, by other laws and another seed, is no part of what is found then. */
+    private static void nothingIsLeftOfTheOneAhead() {
+        Edge.of(4, "else it is in place of the one ahead");
+        String rich = sixOf(9, 5, 900, 11) + "cools=9;warms=3;fades=90-heat;mends=9;coals 9;roof 30;hail 100;seed 77;";
+        String[] texts = {"", "hail 50;", Edge.keeping(9), "hail 50;" + Edge.keeping(60, 50),
+            "hail 50;" + Edge.glazed(20, 3, 9, 1), Edge.standing(1, 2, 3, 4, 9, 0) + "hail 90;",
+            Edge.keeping(90, 80, 70) + "hail 40;fades=9-burnt;", sixOf(1, 0, 60, 3)};
+        for (String text : texts) {
+            SummerHouses x = Check.of(rich);
+            Edge.answers(x);
+            Edge.is("read()", Check.read(x, text), 0);
+            SummerHouses fresh = Check.of(text);
+            Edge.is("all that is asked of " + brief(text), Edge.answers(x).equals(Edge.answers(fresh)), true);
+        }
+        for (String untold : new String[] {"coals 9;", "roof 9;", "hail 50;", "seed 9;", "cools=9;"}) {
+            SummerHouses x = Check.of("coals 8;roof 8;hail 100;seed 8;cools=8;warms=8;fades=8;mends=8;" + Edge.keeping(90));
+            Edge.is("read()", Check.read(x, untold + Edge.keeping(90)), 0);
+            Edge.is("HAIL by " + untold, hailDays(x), hailDays(untold + Edge.keeping(90)));
+            for (int i = 0; i < 30; i++) {
+                x.undo();
+            }
+            Edge.alike("all else is as untold", x, Check.of(untold + Edge.keeping(90)));
         }
     }
 
