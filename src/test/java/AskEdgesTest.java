@@ -403,13 +403,14 @@ public final class AskEdgesTest {
     // ---- promises 22 to 26
 
     private static void far() {
-        Edge.of(22, "FAR; NONE: no such ones.");
+        Edge.of(22, "FAR of two HOUSES: how much X differ and how much Y differ, added.");
         Edge.Made made = () -> Check.of(Edge.standing(0, 99, 99, 0, 0, 0));
         Edge.same(made, "far(0, 1)", x -> x.far(0, 1), 198);
         Edge.same(made, "far(1, 0)", x -> x.far(1, 0), 198);
         Edge.same(made, "far(0, 2)", x -> x.far(0, 2), 99);
         Edge.same(made, "far(2, 1)", x -> x.far(2, 1), 99);
         Edge.same(made, "far(1, 1)", x -> x.far(1, 1), 0);
+        Edge.of(22, "FAR; NONE: no such ones.");
         for (int house : NO_HOUSES) {
             Edge.refused(Edge::busy, "far(" + house + ", 0)", x -> x.far(house, 0));
             Edge.refused(Edge::busy, "far(0, " + house + ")", x -> x.far(0, house));
@@ -521,6 +522,15 @@ public final class AskEdgesTest {
             Edge.same(Edge::busy, "saves(" + house + ")", x -> x.saves(house), -100000);
         }
         Edge.same(Edge::empty, "saves(0) of none", x -> x.saves(0), -100000);
+        Edge.of(27, "SAVES of a HOUSE: by how much less LOSS it has with one COAL than without.");
+        // What is burnt already is no COAL more: the fifth and the sixth coal are the ones that are looked at.
+        SummerHouses burnt = Check.of(Edge.keeping(999) + "fades = if burnt < 5 then 10 else if burnt < 6 then 3 else 8;");
+        burnt.burn(0, 4);
+        Edge.is("saves(0), the fifth", burnt.saves(0), 7);
+        burnt.burn(0, 1);
+        Edge.is("saves(0), the sixth", burnt.saves(0), -5);
+        Edge.is("saves(0): FADES held to kept", Check.of(Edge.keeping(4) + "fades = 9 - burnt * 6;").saves(0), 1);
+        Edge.is("saves(0) without a COAL there", Check.of(Edge.keeping(4) + "fades = 2 - burnt; coals 0;").saves(0), 1);
         Edge.is("saves(5) of six", Check.of(Edge.keeping(9, 9, 9, 9, 9, 9) + "fades = which - burnt;").saves(5), 1);
     }
 
@@ -692,7 +702,7 @@ public final class AskEdgesTest {
     // ---- promises 33 to 35
 
     private static void summers() {
-        Edge.of(33, "SUMMERS; NONE: no such v.");
+        Edge.of(33, "SUMMERS: in how many HOUSES v (1 .. 999) or more is KEPT.");
         Edge.Made made = () -> Check.of(Edge.keeping(0, 1, 500, 998, 999, 999));
         int[][] vAndHow = {{1, 5}, {2, 4}, {500, 4}, {501, 3}, {998, 3}, {999, 2}};
         for (int[] one : vAndHow) {
@@ -701,6 +711,7 @@ public final class AskEdgesTest {
         Edge.is("summers(9): the first alone", Check.of(Edge.keeping(9, 8)).summers(9), 1);
         Edge.is("summers(9): the last of six alone", Check.of(Edge.keeping(8, 8, 8, 8, 8, 9)).summers(9), 1);
         Edge.is("summers(9): all six", Check.of(Edge.keeping(9, 9, 9, 9, 9, 9)).summers(9), 6);
+        Edge.of(33, "SUMMERS; NONE: no such v.");
         for (int v : new int[] {0, -1, 1000, Edge.MIN, Edge.MAX}) {
             Edge.refused(made, "summers(" + v + ")", x -> x.summers(v));
             Edge.refused(Edge::empty, "summers(" + v + ") of none", x -> x.summers(v));

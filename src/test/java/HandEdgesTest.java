@@ -25,6 +25,7 @@ public final class HandEdgesTest {
         dayEnds();
         undoNothing();
         undoForty();
+        undoByTurns();
         undoEach();
         whatIsNoThingDone();
         undoBehindTextAndRestore();
@@ -446,6 +447,36 @@ public final class HandEdgesTest {
             x.bring(5);
             Edge.is("undo() of what is done then", x.undo(), true);
             Edge.is("undo() no more", x.undo(), false);
+        }
+    }
+
+    /** Things done and undone by turns, so that what is kept to be undone begins anywhere. */
+    private static void undoByTurns() {
+        Edge.of(13, "there is none (the last 40 can be).");
+        for (int ahead = 0; ahead <= 44; ahead++) {
+            SummerHouses x = new SummerHouses();
+            bringOnes(x, ahead);
+            int can = Math.min(40, ahead);
+            for (int i = 0; i < can / 2; i++) {
+                x.undo();
+            }
+            int coals = 20 + ahead - can / 2;
+            Edge.is("count(2), half undone", x.count(2), coals);
+            bringOnes(x, 39);
+            int all = Math.min(40, can - can / 2 + 39);
+            Edge.is("count(9)", x.count(9), all);
+            for (int i = 1; i <= all; i++) {
+                x.undo();
+                Edge.is("count(2)", x.count(2), coals + 39 - i);
+            }
+            Edge.is("undo() no further", x.undo(), false);
+            Edge.is("count(2) stays", x.count(2), coals + 39 - all);
+        }
+    }
+
+    private static void bringOnes(SummerHouses x, int times) {
+        for (int i = 0; i < times; i++) {
+            x.bring(1);
         }
     }
 

@@ -21,6 +21,7 @@ public final class TextEdgesTest {
         ints();
         signs();
         emptyTells();
+        tells();
         houses();
         housesNumbers();
         numbersForAll();
@@ -323,6 +324,63 @@ public final class TextEdgesTest {
             }
         }
         refused("cools=x;", SYNTAX, 6);
+    }
+
+    /** Each TOKEN of a TELL: the text may not end ahead of it, and no other sort, nor a second one, stands there. */
+    private static void eachToken(String... tokens) {
+        StringBuilder ahead = new StringBuilder();
+        for (int i = 0; i < tokens.length; i++) {
+            int place = ahead.length();
+            String sort = sortOf(tokens[i]);
+            for (String other : new String[] {"x", "1", ";", "=", "house", "roof", "heat"}) {
+                // At its start, a TELL of another sort is no FAULT there.
+                if (!sortOf(other).equals(sort) && (i > 0 || !other.equals("house") && !other.equals("roof"))) {
+                    refused(ahead + other, SYNTAX, place);
+                }
+            }
+            if (i > 0) {
+                refused(ahead.toString(), SYNTAX, place);
+            }
+            ahead.append(tokens[i]).append(' ');
+        }
+        taken(ahead.toString());
+        refused(ahead + ";", SYNTAX, ahead.length());
+        refused(ahead + "1;", SYNTAX, ahead.length());
+    }
+
+    private static String sortOf(String token) {
+        char c = token.charAt(0);
+        return c >= '0' && c <= '9' ? "INT" : token.length() < 3 && c >= 'a' && c <= 'z' ? "NAME" : token;
+    }
+
+    private static void tells() {
+        Edge.of(4, "TELL: 'house' NAME INT INT INT INT INT ';'");
+        eachToken("house", "a", "1", "0", "0", "0", "0", ";");
+        refused("house a 1 0 0 0;", SYNTAX, 15);
+        refused("house a 1 0 0 0 0 0;", SYNTAX, 18);
+        refused("house a b 1 0 0 0 0;", SYNTAX, 8);
+        refused("house 1 0 0 0 0;", SYNTAX, 6);
+        Edge.of(4, "'coals' INT ';' | 'roof' INT ';' | 'hail' INT ';' | 'seed' INT ';'.");
+        for (String word : new String[] {"coals", "roof", "hail", "seed"}) {
+            eachToken(word, "1", ";");
+            int place = word.length() + 1;
+            refused(word + " heat;", SYNTAX, place);
+            refused(word + " (1);", SYNTAX, place);
+            refused(word + "=1;", SYNTAX, place - 1);
+            refused(word + " 1+1;", SYNTAX, place + 1);
+        }
+        Edge.of(4, "('cools' | 'warms' | 'fades' | 'mends') LAW ';'");
+        for (String word : LAWS) {
+            taken(word + "=1;");
+            taken(word + "=1;" + word + "=heat;");
+            refused(word, SYNTAX, 5);
+            refused(word + ";", SYNTAX, 5);
+            refused(word + "==1;", SYNTAX, 6);
+            refused(word + "=1", SYNTAX, 7);
+            refused(word + "=1 2;", SYNTAX, 8);
+            refused(word + "=1;;", SYNTAX, 8);
+            refused(word + "=1;=2;", SYNTAX, 8);
+        }
     }
 
     // ---- promise 4: HOUSES and numbers

@@ -391,7 +391,11 @@ public final class ToldEdgesTest {
         Edge.is("count(4): 999 in each", y.count(4), 6 * 999);
         Edge.is("count(14)", y.count(14), 540);
         Edge.is("count(19)", y.count(19), 540);
+        Edge.of(42, "18 ROOF, 19 COALS burnt today.");
+        Edge.is("count(18) of one", Check.of("roof 1;").count(18), 1);
+        Edge.is("count(18), the last one", Check.of("roof 98; roof 99;").count(18), 99);
         y.undo();
+        Edge.is("count(19), undone", y.count(19), 530);
         Edge.is("count(14), undone", y.count(14), 530);
         y.cut(0, 1);
         y.cut(0, 1);
