@@ -299,6 +299,17 @@ public final class TextEdgesTest {
         taken("coals 1;coals 1;");
         refused(";", SYNTAX, 0);
         refused("coals 1;;", SYNTAX, 8);
+        // The first nine words begin a TELL, the others none, whatever stands behind them.
+        for (int i = 0; i < WORDS.length; i++) {
+            if (i >= 9) {
+                refused(WORDS[i], SYNTAX, 0);
+                refused(WORDS[i] + " 1;", SYNTAX, 0);
+                refused(WORDS[i] + "=1;", SYNTAX, 0);
+                refused(WORDS[i] + " a 1 0 0 0 0;", SYNTAX, 0);
+            } else {
+                refused(WORDS[i], SYNTAX, WORDS[i].length());
+            }
+        }
         Edge.of(4, "LAW: '=' {'if' E '<' E 'then' E 'else'} E.");
         for (String law : LAWS) {
             refused(law + "=;", SYNTAX, 6);
