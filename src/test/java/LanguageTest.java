@@ -1,10 +1,12 @@
 import java.lang.management.ManagementFactory;
 import java.lang.reflect.Constructor;
 import java.lang.reflect.Field;
+import java.lang.reflect.InvocationTargetException;
 import java.lang.reflect.Method;
 import java.lang.reflect.Modifier;
 import java.nio.file.Files;
 import java.nio.file.Path;
+import java.util.Random;
 import java.util.Set;
 import java.util.TreeSet;
 import java.util.regex.Matcher;
@@ -22,9 +24,13 @@ public final class LanguageTest {
     private static final Set<String> LIBRARY = Set.of("Math.max", "Math.min", "Math.abs", "Integer.bitCount", "System.arraycopy");
 
     public static void main(String[] args) throws Exception {
+        String source = Files.readString(Path.of("src/main/java/SummerHouses.java"));
         theFace();
         theClassesInside();
-        theSource(Files.readString(Path.of("src/main/java/SummerHouses.java")));
+        theSource(source);
+        theNames(withoutRemarks(source));
+        theStatics();
+        noCallThrows();
         theRoom();
         Check.end("LanguageTest");
     }
@@ -81,8 +87,12 @@ public final class LanguageTest {
         }
     }
 
+    private static String withoutRemarks(String source) {
+        return source.replaceAll("(?s)/\\*.*?\\*/", " ").replaceAll("//[^\n]*", " ");
+    }
+
     private static void theSource(String source) {
-        String code = source.replaceAll("(?s)/\\*.*?\\*/", " ").replaceAll("//[^\n]*", " ");
+        String code = withoutRemarks(source);
         for (String pattern : RULED_OUT) {
             Matcher m = Pattern.compile(pattern).matcher(code);
             is("no " + pattern, !m.find());
@@ -98,6 +108,117 @@ public final class LanguageTest {
             is("no method of more than 60 lines: " + line, lines <= 60 || line.matches("    }|}|\\s*|        (static|final|private|int|public).*;|    private.*;"));
         }
         is("signs 1 to 127", source.chars().allMatch(c -> c > 0 && c < 128));
+    }
+
+    /** Rules 2 to 4: no type and no method of the library but those that are listed, and no loop without an end. */
+    private static void theNames(String code) {
+        Set<String> types = new TreeSet<>(Set.of("SummerHouses", "String", "Math", "Integer", "System"));
+        for (Class<?> c : SummerHouses.class.getDeclaredClasses()) {
+            types.add(c.getSimpleName());
+        }
+        String plain = code.replaceAll("\"[^\"]*\"", "\"\"").replaceAll("'.'", "' '");
+        Matcher names = Pattern.compile("\\b[A-Z]\\w*[a-z]\\w*\\b").matcher(plain);
+        while (names.find()) {
+            is(names.group() + " is a class of its own, or in the library", types.contains(names.group()));
+        }
+        Matcher ofTexts = Pattern.compile("\\b(WORDS|SIGNS)\\.(\\w+)").matcher(plain);
+        while (ofTexts.find()) {
+            is(ofTexts.group() + " is in the library", Set.of("length", "charAt", "indexOf").contains(ofTexts.group(2)));
+        }
+        for (String endless : new String[] {"while\\s*\\(\\s*true", "for\\s*\\([^;]*;\\s*;", "\\]\\s*\\[\\s*\\]\\s*\\["}) {
+            is("no " + endless, !Pattern.compile(endless).matcher(plain).find());
+        }
+        is("a class alone extends nothing", !Pattern.compile("\\b(extends|implements|abstract|interface)\\b").matcher(plain).find());
+    }
+
+    /** Rule 5: numbers, texts and rows written out, which nothing sets. */
+    private static void theStatics() throws Exception {
+        Set<Class<?>> constants = Set.of(int.class, long.class, boolean.class, char.class, String.class);
+        Set<Class<?>> rows = Set.of(int[].class, long[].class, char[].class, byte[].class);
+        String code = withoutRemarks(Files.readString(Path.of("src/main/java/SummerHouses.java")));
+        int found = 0;
+        Class<?>[] inside = SummerHouses.class.getDeclaredClasses();
+        for (int i = 0; i <= inside.length; i++) {
+            for (Field f : (i == 0 ? SummerHouses.class : inside[i - 1]).getDeclaredFields()) {
+                if (!Modifier.isStatic(f.getModifiers())) {
+                    continue;
+                }
+                is(f + " is a constant or a row", constants.contains(f.getType()) || rows.contains(f.getType()));
+                if (rows.contains(f.getType())) {
+                    is(f + " is written out", Pattern.compile("\\b" + f.getName() + " = \\{").matcher(code).find());
+                    is(f + " is never set", !Pattern.compile("\\b" + f.getName() + "\\[[^\\]]*\\]\\s*=[^=]").matcher(code).find());
+                    found++;
+                }
+            }
+        }
+        is("there are some rows", found > 0);
+    }
+
+    private static final int[] ODD = {0, 1, -1, 2, -2, 3, 5, 6, 7, 9, 10, 11, 12, 13, 19, 20, 21, 30, 31, 60, 61, 99, 100, 999,
+        1000, 1 << 30, Integer.MIN_VALUE, Integer.MIN_VALUE + 1, Integer.MAX_VALUE};
+    private static final String[] BITS = {"house ", "cools=", "warms=", "fades=", "mends=", "coals ", "roof ", "hail ", "seed ",
+        "if ", " then ", " else ", "panes", " broken", " heat", " kept ", "open ", "day", "which", " leaves", "burnt ", ";", "=",
+        "+", "-", "*", "/", "<", "(", ")", "0", "1", "9999", "99999", "a", "abcdefgh", "abcdefghi", " ", "\n", ".", "\u00ff"};
+    private static final String[] ODD_TELLS = {"fades=1/broken;", "warms=heat*heat*heat*9999;", "cools=kept/(heat-heat);",
+        "mends=0-1;", "hail 100;", "fades=((((((kept))))))/3;", "seed 9999;", "roof 1;", "roof 99;", "coals 0;", "coals 999;",
+        "cools=if heat<9999*9999*99/(0-1) then 8192*8192*32/(0-1) else 1/0;"};
+
+    /** Rule 7: any arguments, in many states, and nothing is thrown. */
+    private static void noCallThrows() throws Exception {
+        Random random = new Random(5);
+        Method[] methods = SummerHouses.class.getDeclaredMethods();
+        java.util.Arrays.sort(methods, java.util.Comparator.comparing(Method::getName));
+        int thrown = 0;
+        for (int run = 0; run < 300; run++) {
+            SummerHouses x = new SummerHouses();
+            for (int i = 0; i < 512; i++) {
+                if (i % 100 == 0) {
+                    Check.feed(x, soup(random));
+                    x.read();
+                }
+                thrown += throwsAny(x, methods[random.nextInt(methods.length)], random) ? 1 : 0;
+                x.back(i % 10 == 0 ? x.count(8) : 0);
+            }
+        }
+        Check.due("calls that threw", thrown, 0);
+    }
+
+    private static String soup(Random random) {
+        StringBuilder s = new StringBuilder();
+        if (random.nextInt(4) > 0) {
+            int houses = random.nextInt(7);
+            for (int h = 0; h < houses; h++) {
+                s.append(Edge.house(String.valueOf((char) ('a' + h)), 1 + random.nextInt(20), random.nextInt(100), random.nextInt(1000),
+                        random.nextInt(100), random.nextInt(100)));
+            }
+            for (String law : ODD_TELLS) {
+                s.append(random.nextBoolean() ? law : "");
+            }
+            return s.toString();
+        }
+        int bits = random.nextInt(200);
+        for (int i = 0; i < bits && s.length() < 900; i++) {
+            s.append(BITS[random.nextInt(BITS.length)]);
+        }
+        return s.toString();
+    }
+
+    private static boolean throwsAny(SummerHouses x, Method m, Random random) throws Exception {
+        if (!Modifier.isPublic(m.getModifiers())) {
+            return false;
+        }
+        Object[] args = new Object[m.getParameterCount()];
+        for (int i = 0; i < args.length; i++) {
+            int some = random.nextInt(3) == 0 ? random.nextInt(7) : ODD[random.nextInt(ODD.length)];
+            args[i] = m.getParameterTypes()[i] == boolean.class ? (Object) random.nextBoolean() : (Object) some;
+        }
+        try {
+            m.invoke(x, args);
+            return false;
+        } catch (InvocationTargetException e) {
+            System.out.println(m + java.util.Arrays.toString(args) + " threw " + e.getCause());
+            return true;
+        }
     }
 
     private static final String DEAR = "house a 20 0 999 0 0; house b 20 0 999 9 9; house c 20 0 999 5 5;"
