@@ -918,7 +918,6 @@ public final class SummerHouses {
         static final int TOLD_Y = 4;
         static final int TOLD = 5;
 
-        final long[] names;
         final int[] numbers;
         final Laws laws;
         int houses;
@@ -928,7 +927,6 @@ public final class SummerHouses {
         int seed;
 
         Quarter() {
-            names = new long[MOST_HOUSES];
             numbers = new int[MOST_HOUSES * TOLD];
             laws = new Laws();
             setUntold();
@@ -944,7 +942,6 @@ public final class SummerHouses {
         }
 
         void copyFrom(Quarter other) {
-            System.arraycopy(other.names, 0, names, 0, MOST_HOUSES);
             System.arraycopy(other.numbers, 0, numbers, 0, MOST_HOUSES * TOLD);
             laws.copyFrom(other.laws);
             houses = other.houses;
@@ -994,15 +991,6 @@ public final class SummerHouses {
 
         int distance(int house, int other) {
             return Math.abs(xOf(house) - xOf(other)) + Math.abs(yOf(house) - yOf(other));
-        }
-
-        boolean isNamed(long name) {
-            for (int h = 0; h < houses; h++) {
-                if (names[h] == name) {
-                    return true;
-                }
-            }
-            return false;
         }
 
         int cools(State state, int house) {
@@ -1242,6 +1230,7 @@ public final class SummerHouses {
 
         final Tokens tokens;
         final Quarter draft;
+        final long[] names;
         int at;
         int fault;
         int faultPlace;
@@ -1249,6 +1238,7 @@ public final class SummerHouses {
         Reader() {
             tokens = new Tokens();
             draft = new Quarter();
+            names = new long[MOST_HOUSES];
         }
 
         int readText(byte[] tape, int length) {
@@ -1286,8 +1276,8 @@ public final class SummerHouses {
             if (!take(Tokens.HOUSE)) {
                 return false;
             }
-            draft.names[house] = tokens.values[at];
-            if (tokens.kinds[at] == Tokens.NAME && draft.isNamed(tokens.values[at])) {
+            names[house] = tokens.values[at];
+            if (tokens.kinds[at] == Tokens.NAME && isToldAlready(tokens.values[at])) {
                 note(TWICE);
             }
             if (!take(Tokens.NAME)) {
@@ -1301,6 +1291,15 @@ public final class SummerHouses {
             }
             draft.houses++;
             return take(';');
+        }
+
+        private boolean isToldAlready(long name) {
+            for (int h = 0; h < draft.houses && h < MOST_HOUSES; h++) {
+                if (names[h] == name) {
+                    return true;
+                }
+            }
+            return false;
         }
 
         private boolean tellNumber(int kind) {
